@@ -22,6 +22,10 @@ public final class EndingTest {
         trappingSupervisorBeginsAnewAndGetsTheExit();
         eightAlive();
         firstReasonCounts();
+        childrenEndByRisingIds();
+        childrenBeforeTheSupervisor();
+        tooOftenEndsThoughItTraps();
+        nothingOfTheEndedStays();
         Check.finish();
     }
 
@@ -385,5 +389,92 @@ public final class EndingTest {
         y.inject(1, 0);
         y.run(2);
         Check.due("behind a 0 the end of the children", y.message(3, 0), -2);
+    }
+
+    private static void childrenEndByRisingIds() {
+        MailYard x = new MailYard();
+        Check.program(x, 0, Check.CHILD, 1, 10, Check.CHILD, 2, 10, Check.TAKE, 0, 0, Check.STOP, 0, 0);
+        Check.program(x, 10, Check.TAKE, 0, 0);
+        Check.program(x, 20, Check.TRAP, 0, 1, Check.SET, 1, 3, Check.LINK, 1, 0, Check.SET, 1, 2,
+                Check.LINK, 1, 0, Check.TAKE, 2, 0, Check.TAKE, 2, 0);
+        x.spawn(0, 0);
+        x.run(5);
+        x.spawn(20, 0);
+        x.run(6);
+        x.inject(1, 0);
+        x.run(2);
+        Check.due("both exits", x.mail(4), 2);
+        x.step();
+        Check.due("of 2 first", x.register(4, 3), 2);
+        x.step();
+        Check.due("then of 3", x.register(4, 3), 3);
+    }
+
+    private static void childrenBeforeTheSupervisor() {
+        MailYard x = new MailYard();
+        Check.program(x, 0, Check.CHILD, 1, 10, Check.TAKE, 2, 0);
+        Check.program(x, 10, Check.CHILD, 1, 20, Check.TAKE, 1, 0, Check.STOP, 1, 0);
+        Check.program(x, 20, Check.TAKE, 0, 0);
+        Check.program(x, 30, Check.TRAP, 0, 1, Check.LINK, 0, 0, Check.TAKE, 1, 0, Check.LINK, 1, 0,
+                Check.TAKE, 1, 0);
+        x.spawn(0, 0);
+        x.run(5);
+        x.spawn(30, 1);
+        x.run(3);
+        int[] children = {2, 5, 7};
+        for (int id : children) {
+            x.inject(id, 1);
+            x.run(5);
+        }
+        Check.due("begun anew", x.restarts(1), 3);
+        x.inject(4, 10);
+        x.run(3);
+        Check.due("linked with the grandchild", x.linked(4, 10), true);
+        x.inject(9, 1);
+        x.run(2);
+        Check.due("both exits", x.mail(4), 2);
+        Check.due("that of the grandchild first", x.message(4, 0), -2);
+        Check.due("then that of the supervisor", x.message(4, 1), -3);
+    }
+
+    private static void tooOftenEndsThoughItTraps() {
+        MailYard x = new MailYard();
+        Check.program(x, 0, Check.TRAP, 0, 1, Check.SET, 1, 5, Check.CHILD, 1, 10, Check.TAKE, 2, 0);
+        Check.program(x, 10, Check.STOP, 0, 0);
+        x.spawn(0, 0);
+        Check.due("four of 1, one of each child", x.run(40), 8);
+        Check.due("ended", x.status(1), 0);
+        Check.due("the last child", x.status(5), 0);
+        Check.due("no more", x.status(6), MailYard.BAD);
+    }
+
+    /** More actors than can be alive at once, each of which leaves all that one can leave. */
+    private static void nothingOfTheEndedStays() {
+        MailYard x = new MailYard();
+        Check.program(x, 0, Check.TRAP, 0, 1, Check.SET, 1, 5, Check.SET, 2, 6, Check.SET, 3, 7,
+                Check.CHILD, 1, 10, Check.GOTO, 0, 5);
+        Check.program(x, 10, Check.SET, 1, 8, Check.TRAP, 0, 1, Check.STOP, 0, 0);
+        Check.program(x, 20, Check.LINK, 0, 0, Check.GOTO, 0, 21);
+        for (int i = 0; i < 6; i++) {
+            int id = x.spawn(0, 9);
+            Check.due("ids", id, 5 * i + 1);
+            Check.due("argument", x.register(id, 0), 9);
+            for (int r = 1; r < 4; r++) {
+                Check.due("register " + r, x.register(id, r), 0);
+            }
+            Check.due("restarts", x.restarts(id), 0);
+            Check.due("mail", x.mail(id), 0);
+            x.inject(id, 3);
+            Check.due("its message", x.message(id, 0), 3);
+            x.run(40);
+            Check.due("ended", x.status(id), 0);
+            Check.due("room", x.room(), 24);
+        }
+        for (int i = 0; i < 8; i++) {
+            int id = x.spawn(20, 0);
+            Check.due("restarts", x.restarts(id), 0);
+            Check.due("mail", x.mail(id), 0);
+        }
+        Check.due("none of them traps", x.run(40), 8);
     }
 }
