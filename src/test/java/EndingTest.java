@@ -365,6 +365,16 @@ public final class EndingTest {
 
     /** The child is linked with its supervisor: the exit comes up before the end of the children. */
     private static void firstReasonCounts() {
+        MailYard x = linkedChildAfterStop(6);
+        Check.due("one exit", x.mail(3), 1);
+        Check.due("the reason of the link", x.message(3, 0), 6);
+        MailYard y = linkedChildAfterStop(0);
+        Check.due("one exit", y.mail(3), 1);
+        Check.due("behind a 0 the end of the children", y.message(3, 0), -2);
+    }
+
+    /** A supervisor 1 that stopped, linked with its child 2, whose exit reached 3. */
+    private static MailYard linkedChildAfterStop(int reason) {
         MailYard x = new MailYard();
         Check.program(x, 0, Check.CHILD, 1, 10, Check.LINK, 1, 0, Check.TAKE, 2, 0, Check.STOP, 2, 0);
         Check.program(x, 10, Check.TAKE, 1, 0);
@@ -373,22 +383,9 @@ public final class EndingTest {
         x.run(4);
         x.spawn(20, 2);
         x.run(3);
-        x.inject(1, 6);
+        x.inject(1, reason);
         x.run(2);
-        Check.due("one exit", x.mail(3), 1);
-        Check.due("the reason of the link", x.message(3, 0), 6);
-
-        MailYard y = new MailYard();
-        Check.program(y, 0, Check.CHILD, 1, 10, Check.LINK, 1, 0, Check.TAKE, 2, 0, Check.STOP, 2, 0);
-        Check.program(y, 10, Check.TAKE, 1, 0);
-        Check.program(y, 20, Check.TRAP, 0, 1, Check.LINK, 0, 0, Check.TAKE, 1, 0);
-        y.spawn(0, 0);
-        y.run(4);
-        y.spawn(20, 2);
-        y.run(3);
-        y.inject(1, 0);
-        y.run(2);
-        Check.due("behind a 0 the end of the children", y.message(3, 0), -2);
+        return x;
     }
 
     private static void childrenEndByRisingIds() {
