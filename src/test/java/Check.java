@@ -15,6 +15,9 @@ final class Check {
     static final int SELF = 12;
     static final int LATER = 13;
 
+    static final int LEAST = Integer.MIN_VALUE;
+    static final int GREATEST = Integer.MAX_VALUE;
+
     private static int wrong = 0;
     private static int asked = 0;
 
@@ -33,6 +36,14 @@ final class Check {
         due(what, got ? 1 : 0, want ? 1 : 0);
     }
 
+    static void due(String what, String got, String want) {
+        asked++;
+        if (!got.equals(want)) {
+            wrong++;
+            System.out.println(what + ": answered\n" + got + "due is\n" + want);
+        }
+    }
+
     /** Loads instructions, three numbers each, into the cells from the given one on. */
     static void program(MailYard yard, int cell, int... numbers) {
         for (int i = 0; i + 2 < numbers.length; i += 3) {
@@ -44,6 +55,13 @@ final class Check {
     static void ticks(MailYard yard, int n) {
         for (int i = 0; i < n; i++) {
             yard.tick();
+        }
+    }
+
+    /** Messages 1, 2, 3, .. from the outside. */
+    static void messages(MailYard yard, int id, int n) {
+        for (int i = 1; i <= n; i++) {
+            due("message " + i + " for " + id, yard.inject(id, i), 1);
         }
     }
 

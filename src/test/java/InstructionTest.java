@@ -1,8 +1,5 @@
 /** The instructions 0 to 13, and what ends an actor that finds none. */
 public final class InstructionTest {
-    private static final int LEAST = Integer.MIN_VALUE;
-    private static final int GREATEST = Integer.MAX_VALUE;
-
     private InstructionTest() {
     }
 
@@ -32,22 +29,23 @@ public final class InstructionTest {
 
     private static void setAndAdd() {
         MailYard x = new MailYard();
-        Check.program(x, 0, Check.SET, 1, GREATEST, Check.ADD, 1, 0, Check.ADD, 0, 0,
-                Check.SET, 2, LEAST, Check.ADD, 2, 2);
+        Check.program(x, 0, Check.SET, 1, Check.GREATEST, Check.ADD, 1, 0, Check.ADD, 0, 0,
+                Check.SET, 2, Check.LEAST, Check.ADD, 2, 2);
         x.spawn(0, 3);
         x.run(2);
-        Check.due("ADD wraps", x.register(1, 1), LEAST + 2);
+        Check.due("ADD wraps", x.register(1, 1), Check.LEAST + 2);
         x.step();
         Check.due("ADD to itself", x.register(1, 0), 6);
         x.step();
-        Check.due("SET", x.register(1, 2), LEAST);
+        Check.due("SET", x.register(1, 2), Check.LEAST);
         x.step();
         Check.due("ADD wraps to 0", x.register(1, 2), 0);
         Check.due("place", x.place(1), 5);
     }
 
     private static void less() {
-        int[][] cases = {{1, 2, 2}, {2, 2, 1}, {3, 2, 1}, {LEAST, GREATEST, 2}, {GREATEST, LEAST, 1}};
+        int[][] cases = {{1, 2, 2}, {2, 2, 1}, {3, 2, 1},
+            {Check.LEAST, Check.GREATEST, 2}, {Check.GREATEST, Check.LEAST, 1}};
         for (int[] c : cases) {
             MailYard x = new MailYard();
             Check.program(x, 10, Check.SET, 1, c[0], Check.SET, 2, c[1], Check.LESS, 1, 2);
@@ -98,7 +96,7 @@ public final class InstructionTest {
 
     private static void sendToItselfAndNobody() {
         MailYard x = new MailYard();
-        int[] nobody = {LEAST, -1, 0, 2, GREATEST};
+        int[] nobody = {Check.LEAST, -1, 0, 2, Check.GREATEST};
         x.spawn(0, 1);
         Check.program(x, 0, Check.SEND, 0, 0, Check.SET, 0, 0, Check.SEND, 0, 0, Check.GOTO, 0, 1);
         x.step();
@@ -215,7 +213,7 @@ public final class InstructionTest {
     }
 
     private static void linkWithTheDead() {
-        int[] dead = {LEAST, -1, 0, 1, 3, GREATEST};
+        int[] dead = {Check.LEAST, -1, 0, 1, 3, Check.GREATEST};
         for (int id : dead) {
             MailYard x = new MailYard();
             Check.program(x, 0, Check.LINK, 0, 0, Check.TRAP, 0, 1, Check.LINK, 0, 0, Check.TAKE, 2, 0,
@@ -263,7 +261,7 @@ public final class InstructionTest {
     }
 
     private static void trap() {
-        for (int b : new int[] {1, -1, LEAST, GREATEST, 0}) {
+        for (int b : new int[] {1, -1, Check.LEAST, Check.GREATEST, 0}) {
             MailYard x = new MailYard();
             Check.program(x, 0, Check.TRAP, 99, 1, Check.TRAP, -99, b, Check.LINK, 0, 0, Check.GOTO, 0, 3);
             x.spawn(0, 0);
@@ -320,8 +318,9 @@ public final class InstructionTest {
 
     private static void numbersNotLookedAt() {
         MailYard x = new MailYard();
-        Check.program(x, 0, Check.GOTO, LEAST, 1, Check.TRAP, GREATEST, LEAST, Check.SELF, 1, LEAST,
-                Check.PUT, 1, GREATEST, Check.LINK, 1, LEAST, Check.STOP, 1, LEAST);
+        Check.program(x, 0, Check.GOTO, Check.LEAST, 1, Check.TRAP, Check.GREATEST, Check.LEAST,
+                Check.SELF, 1, Check.LEAST,
+                Check.PUT, 1, Check.GREATEST, Check.LINK, 1, Check.LEAST, Check.STOP, 1, Check.LEAST);
         x.spawn(0, 0);
         Check.due("all are done", x.run(40), 6);
         Check.due("ended", x.status(1), 0);

@@ -1,8 +1,5 @@
 /** One method or more for each promise, by its number. */
 public final class PromiseTest {
-    private static final int LEAST = Integer.MIN_VALUE;
-    private static final int GREATEST = Integer.MAX_VALUE;
-
     private PromiseTest() {
     }
 
@@ -77,8 +74,8 @@ public final class PromiseTest {
         Check.due("2 cell 0", x.load(0, Check.SET, 0, 0), true);
         Check.due("2 cell 47", x.load(47, Check.SET, 0, 0), true);
         Check.due("2 cell 48", x.load(48, Check.SET, 0, 0), false);
-        Check.due("2 least cell", x.load(LEAST, Check.SET, 0, 0), false);
-        Check.due("2 greatest cell", x.load(GREATEST, Check.SET, 0, 0), false);
+        Check.due("2 least cell", x.load(Check.LEAST, Check.SET, 0, 0), false);
+        Check.due("2 greatest cell", x.load(Check.GREATEST, Check.SET, 0, 0), false);
     }
 
     private static void load02Operations() {
@@ -86,13 +83,13 @@ public final class PromiseTest {
         for (int op = -3; op <= 17; op++) {
             Check.due("2 op " + op, x.load(0, op, 1, 1), op >= 0 && op <= 13);
         }
-        Check.due("2 least op", x.load(0, LEAST, 0, 1), false);
-        Check.due("2 greatest op", x.load(0, GREATEST, 0, 1), false);
+        Check.due("2 least op", x.load(0, Check.LEAST, 0, 1), false);
+        Check.due("2 greatest op", x.load(0, Check.GREATEST, 0, 1), false);
     }
 
     private static void load02FirstNumber() {
         MailYard x = new MailYard();
-        int[] numbers = {LEAST, -1, 0, 1, 2, 3, 4, 48, GREATEST};
+        int[] numbers = {Check.LEAST, -1, 0, 1, 2, 3, 4, 48, Check.GREATEST};
         for (int op = 0; op <= 13; op++) {
             for (int a : numbers) {
                 boolean free = op == Check.GOTO || op == Check.TRAP;
@@ -103,7 +100,7 @@ public final class PromiseTest {
 
     private static void load02SecondNumber() {
         MailYard x = new MailYard();
-        int[] numbers = {LEAST, -1, 0, 1, 3, 4, 47, 48, GREATEST};
+        int[] numbers = {Check.LEAST, -1, 0, 1, 3, 4, 47, 48, Check.GREATEST};
         for (int op = 0; op <= 13; op++) {
             for (int b : numbers) {
                 boolean want;
@@ -136,11 +133,11 @@ public final class PromiseTest {
 
     private static void spawn03() {
         MailYard x = new MailYard();
-        Check.due("3 first", x.spawn(47, LEAST), 1);
+        Check.due("3 first", x.spawn(47, Check.LEAST), 1);
         Check.due("3 second", x.spawn(0, 7), 2);
         Check.due("3 place", x.place(1), 47);
         Check.due("3 place", x.place(2), 0);
-        Check.due("3 argument", x.register(1, 0), LEAST);
+        Check.due("3 argument", x.register(1, 0), Check.LEAST);
         Check.due("3 argument", x.register(2, 0), 7);
         for (int r = 1; r < 4; r++) {
             Check.due("3 register " + r, x.register(2, r), 0);
@@ -156,7 +153,7 @@ public final class PromiseTest {
 
     private static void spawn03Refusals() {
         MailYard x = new MailYard();
-        int[] entries = {-1, 48, LEAST, GREATEST};
+        int[] entries = {-1, 48, Check.LEAST, Check.GREATEST};
         for (int entry : entries) {
             Check.due("3 entry " + entry, x.spawn(entry, 0), MailYard.BAD);
         }
@@ -179,14 +176,14 @@ public final class PromiseTest {
         x.run(2);
         Check.due("4 both wait", x.status(1) * 10 + x.status(2), 22);
         Check.due("4 limits", x.timers(), 2);
-        Check.due("4 injected", x.inject(2, LEAST), 1);
+        Check.due("4 injected", x.inject(2, Check.LEAST), 1);
         Check.due("4 runnable", x.status(2), 1);
         Check.due("4 its limit is no more", x.timers(), 1);
         Check.due("4 the other waits", x.status(1), 2);
         Check.due("4 room", x.room(), 23);
         Check.due("4 place stays", x.place(2), 0);
         x.step();
-        Check.due("4 value", x.register(2, 1), LEAST);
+        Check.due("4 value", x.register(2, 1), Check.LEAST);
         Check.due("4 from the outside", x.register(2, 3), 0);
         Check.due("4 room again", x.room(), 24);
     }
@@ -246,8 +243,8 @@ public final class PromiseTest {
         Check.program(x, 0, Check.ADD, 1, 0, Check.GOTO, 0, 0);
         Check.due("6 -1", x.run(-1), MailYard.BAD);
         Check.due("6 41", x.run(41), MailYard.BAD);
-        Check.due("6 least", x.run(LEAST), MailYard.BAD);
-        Check.due("6 greatest", x.run(GREATEST), MailYard.BAD);
+        Check.due("6 least", x.run(Check.LEAST), MailYard.BAD);
+        Check.due("6 greatest", x.run(Check.GREATEST), MailYard.BAD);
         Check.due("6 empty queue", x.run(40), 0);
         x.spawn(0, 1);
         Check.due("6 a refused run does nothing", x.run(41), MailYard.BAD);
@@ -280,7 +277,7 @@ public final class PromiseTest {
 
     private static void status08() {
         MailYard x = new MailYard();
-        int[] never = {LEAST, -1, 0, 1, GREATEST};
+        int[] never = {Check.LEAST, -1, 0, 1, Check.GREATEST};
         for (int id : never) {
             Check.due("8 id " + id, x.status(id), MailYard.BAD);
         }
@@ -301,7 +298,7 @@ public final class PromiseTest {
         Check.due("9 never", x.register(1, 0), 0);
         x.spawn(0, 5);
         Check.due("9 argument", x.register(1, 0), 5);
-        int[] none = {LEAST, -1, 4, GREATEST};
+        int[] none = {Check.LEAST, -1, 4, Check.GREATEST};
         for (int r : none) {
             Check.due("9 register " + r, x.register(1, r), 0);
         }
@@ -354,8 +351,8 @@ public final class PromiseTest {
             }
             Check.due("12 behind the last", x.message(1, 7), 0);
             Check.due("12 -1", x.message(1, -1), 0);
-            Check.due("12 least", x.message(1, LEAST), 0);
-            Check.due("12 greatest", x.message(1, GREATEST), 0);
+            Check.due("12 least", x.message(1, Check.LEAST), 0);
+            Check.due("12 greatest", x.message(1, Check.GREATEST), 0);
             x.step();
             Check.due("12 first in, first out", x.register(1, 0), round * 10 + 1);
             Check.due("12 next", x.message(1, 0), round * 10 + 2);
@@ -441,7 +438,7 @@ public final class PromiseTest {
             x.spawn(0, 0);
         }
         Check.due("16 as they came", Check.queueDigits(x), 1234);
-        int[] none = {LEAST, -1, 4, 8, GREATEST};
+        int[] none = {Check.LEAST, -1, 4, 8, Check.GREATEST};
         for (int k : none) {
             Check.due("16 place " + k, x.queue(k), 0);
         }
@@ -516,13 +513,13 @@ public final class PromiseTest {
         Check.due("20 count", x.output(-1), 0);
         Check.due("20 none", x.output(0), 0);
         Check.program(x, 0, Check.PUT, 0, 0, Check.ADD, 0, 1, Check.GOTO, 0, 0);
-        x.spawn(0, LEAST);
+        x.spawn(0, Check.LEAST);
         x.load(1, Check.SET, 0, 7);
         x.run(4);
         Check.due("20 count", x.output(-1), 2);
-        Check.due("20 first", x.output(0), LEAST);
+        Check.due("20 first", x.output(0), Check.LEAST);
         Check.due("20 second", x.output(1), 7);
-        int[] none = {LEAST, -2, 2, 60, GREATEST};
+        int[] none = {Check.LEAST, -2, 2, 60, Check.GREATEST};
         for (int i : none) {
             Check.due("20 output " + i, x.output(i), 0);
         }
@@ -537,7 +534,7 @@ public final class PromiseTest {
 
     private static void author21() {
         MailYard x = new MailYard();
-        int[] none = {LEAST, -2, -1, 0, 1, 60, GREATEST};
+        int[] none = {Check.LEAST, -2, -1, 0, 1, 60, Check.GREATEST};
         for (int i : none) {
             Check.due("21 output " + i, x.author(i), MailYard.BAD);
         }

@@ -1,7 +1,5 @@
 /** Limits of waiting and messages that come later. */
 public final class TimerTest {
-    private static final int GREATEST = Integer.MAX_VALUE;
-
     private TimerTest() {
     }
 
@@ -208,7 +206,7 @@ public final class TimerTest {
 
     private static void greatestNumberOfTicks() {
         MailYard x = new MailYard();
-        Check.program(x, 0, Check.LATER, 0, GREATEST, Check.TAKE, 1, GREATEST);
+        Check.program(x, 0, Check.LATER, 0, Check.GREATEST, Check.TAKE, 1, Check.GREATEST);
         x.tick();
         x.tick();
         x.spawn(0, 0);
